@@ -523,7 +523,8 @@ public final class PromiseTests {
     write(y, "3:1,2,3;");
     y.knock();
     Call[] steps = {() -> y.unjoint(0), () -> y.joint(0, 0, 4, 4), () -> y.weight(0, 0, 1), () -> y.cut(0, 0), () -> y.string(0, 0, 0, 9), () -> y.let(0, 0, 5),
-        () -> y.pull(0, 0, 0), () -> y.cross(0, 2), () -> y.tilt(0, 0), () -> y.mirror(1), () -> y.key(0, 3), () -> y.unkey(0, 3), () -> y.tear(0, 0, 2),
+        () -> y.pull(0, 0, 0), () -> y.cross(0, 2), () -> y.cross(0, 3),
+        () -> y.tilt(0, 0), () -> y.tilt(0, 1), () -> y.mirror(1), () -> y.key(0, 3), () -> y.unkey(0, 3), () -> y.tear(0, 0, 2),
         () -> y.exchange(0, true), () -> y.exchange(0, false), () -> y.exchange(1, false), () -> y.untwist(), () -> y.hand(0, 0), () -> y.hand(1, 2),
         () -> y.thing(1, 1), () -> y.thing(1, 1), () -> y.read(1)};
     for (int i = 0; i < 8; i++) {
@@ -540,6 +541,17 @@ public final class PromiseTests {
       is(y.digest(), before);
       step.answer();
     }
+    // The row is as it was, though its places were used anew.
+    Stringpuppet r = fresh();
+    r.exchange(0, true);
+    r.exchange(1, false);
+    r.untwist();
+    r.exchange(2, true);
+    is(r.row(), "0+ 2+");
+    r.undo();
+    is(r.row(), "0+");
+    r.undo();
+    is(r.row(), "0+ 1-");
     // The slip, what was refused and knocks stay.
     Stringpuppet z = fresh();
     z.tilt(0, 1);
@@ -677,6 +689,13 @@ public final class PromiseTests {
     is(y.poses(0, true), 0);
     fails(y, INDEX, () -> y.poses(2, false));
     fails(y, INDEX, () -> y.poses(-1, true));
+    // Of a shadow of three places: as many as there are from 0 to 2 that touch both 0 and 2.
+    Stringpuppet w = fresh();
+    w.joint(0, 0, 4, 1);
+    is(w.pose(0), "0,0 2,0");
+    is(w.poses(0, true), 12);
+    w.joint(0, 0, 1, 0);
+    is(w.poses(0, true), 32);
     promise = 27;
     is(y.place(0, 0, true), -1);
     is(y.place(0, 1, false), -1);
@@ -812,6 +831,17 @@ public final class PromiseTests {
     z.let(0, 0, 0);
     is(z.pose(0), "2,5");
     is(z.balance(0), "-");
+    // Strings of two joints: a level one to the left, one that goes 1 up and 1 to the right.
+    Stringpuppet t = fresh();
+    t.weight(0, 0, 6);
+    t.joint(0, 0, 5, 0);
+    t.tilt(0, 1);
+    t.cross(0, 3);
+    t.string(0, 0, 0, 1);
+    t.string(0, 0, 1, 2);
+    t.string(0, 3, 0, 4);
+    is(t.pose(0), "2,5 0,4");
+    is(t.balance(0), "0:6 1:6");
   }
 
   private static void reachPullsWay() {
@@ -871,6 +901,26 @@ public final class PromiseTests {
     x.let(0, 0, 1);
     is(x.way(0, 0, 2, 3), -1);
     mazes();
+    shortestAndLongestLets();
+  }
+
+  private static void shortestAndLongestLets() {
+    Stringpuppet x = fresh();
+    x.cross(0, 4);
+    x.tilt(0, 1);
+    x.string(0, 0, 0, 3);
+    promise = 34;
+    is(x.reach(0, 0, 0), 7);
+    promise = 35;
+    is(x.pulls(0, 0, 0, 2, 5), 3);
+    is(x.pulls(0, 0, 0, 0, 0), 3);
+    x.tilt(0, -1);
+    x.let(0, 0, 4);
+    promise = 34;
+    is(x.reach(0, 0, 0), 6);
+    promise = 35;
+    is(x.pulls(0, 0, 0, 2, 0), 5);
+    is(x.pulls(0, 0, 0, 2, 5), 0);
   }
 
   private static void mazes() {
@@ -1033,6 +1083,9 @@ public final class PromiseTests {
     x.let(0, 0, 0);
     x.key(0, 1);
     is(x.feet(0, 0, 1), 1);
+    x.let(0, 0, 5);
+    x.key(0, 0);
+    is(x.feet(0, 0, 1), 0);
     fails(x, INDEX, () -> x.feet(0, 2, 0));
     fails(x, INDEX, () -> x.feet(0, 0, 2));
     fails(x, INDEX, () -> x.feet(0, -1, 0));
@@ -1069,6 +1122,10 @@ public final class PromiseTests {
     s.tear(0, 2, 4);
     is(s.at(0, 4), "0,1 2,0 1,1 0,0");
     is(s.shadow(0, 4), 7);
+    Stringpuppet alone = fresh();
+    alone.string(1, 2, 0, 6);
+    is(alone.at(1, 0), "5,1");
+    is(alone.shadow(1, 0), 32);
     s.let(0, 1, 0);
     is(s.shadow(0, 3), 0);
     fails(s, ARGUMENT, () -> s.shadow(0, 16));
@@ -1092,6 +1149,12 @@ public final class PromiseTests {
     is(x.table(0, 0, 8), -1);
     is(x.table(0, 8, 0), -1);
     is(x.table(0, 8, 8), -1);
+    is(x.table(0, 15, 0), -1);
+    is(x.table(0, 0, 15), -1);
+    x.unkey(0, 8);
+    is(x.table(0, 15, 0), 2);
+    is(x.table(0, 0, 15), 2);
+    x.undo();
     x.string(0, 2, 0, 5);
     is(x.table(0, 0, 4), 5);
     is(x.table(0, 4, 0), 5);
@@ -1133,6 +1196,8 @@ public final class PromiseTests {
     x.tear(0, 0, 9);
     is(x.at(0, 9), "0,0 2,0");
     is(x.clash(), 9);
+    x.tear(0, 0, 15);
+    is(x.clash(), 15);
   }
 
   private static void rowStrand() {
