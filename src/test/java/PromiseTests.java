@@ -71,6 +71,12 @@ public final class PromiseTests {
     return x;
   }
 
+  private static Stringpuppet written(String text) {
+    Stringpuppet x = fresh();
+    write(x, text);
+    return x;
+  }
+
   private static void write(Stringpuppet x, String text) {
     x.wipe();
     for (int i = 0; i < text.length(); i++) {
@@ -1247,26 +1253,26 @@ public final class PromiseTests {
     promise = 46;
     String[] right = {"", "0:0,0,0;", "15:9,9,9;", "0:1,2,3;1:1,2,3;10:1,2,3;15:4,5,6;"};
     for (String text : right) {
-      write(x, text);
-      is(x.fault(), -1);
+      Stringpuppet y = written(text);
+      is(y.fault(), -1);
     }
     String[] begun = {"0", "1", "10", "15", "7:", "1:", "7:1", "7:1,", "7:1,2", "7:1,2,", "7:1,2,3", "1:1,2,3;1", "1:1,2,3;15"};
     for (String text : begun) {
-      write(x, text);
-      is(x.fault(), text.length());
+      Stringpuppet y = written(text);
+      is(y.fault(), text.length());
     }
     String[] faulty = {":", ",", ";", "00", "01", "16", "19", "20", "99", "100", "151", "1,", "1;", "12,", "12;", "1::", "1:,", "1:;", "1:22", "1:2:", "1:2;", "1:2,,", "1:2,:",
         "1:2,;", "1:2,33", "1:2,3;;", "1:2,3;:", "1:2,3;,", "1:2,3,4,", "1:2,3,4:", "1:2,3,44", "1:1,2,3;1:", "2:1,2,3;1:", "12:1,2,3;11:", "12:1,2,3;12:", "0:1,2,3;0:",
         "1:2,3,"};
     for (String text : faulty) {
-      write(x, text);
+      Stringpuppet y = written(text);
       int place = text.equals("1:2,3;;") || text.equals("1:2,3;:") || text.equals("1:2,3;,") ? 5 : text.equals("1:2,3,") ? 6 : text.length() - 1;
-      is(x.fault(), place);
-      if (x.house(5) < 38) {
+      is(y.fault(), place);
+      if (y.house(5) < 38) {
         // What stands behind the first fault does not count.
-        x.type(12);
-        x.type(3);
-        is(x.fault(), text.equals("1:2,3,") ? 6 : place);
+        y.type(12);
+        y.type(3);
+        is(y.fault(), text.equals("1:2,3,") ? 6 : place);
       }
     }
     promise = 47;
