@@ -217,7 +217,7 @@ public final class SentenceTests {
         "3 * joint 1 0 1 1 | joint 1 0 1 1 ! State | joint 1 3 5 0 ! State | unjoint 1 = 3 | joint 1 0 1 1 = 3 | joint 1 0 1 1 ! State");
     says(2, "each other one hangs by a ROD on an elder JOINT, its PARENT", "joint 0 1 1 1 ! Index | joint 0 0 1 1 | joint 0 2 1 1 ! Index | joint 0 1 1 1 = 2"
         + " | ofJoint 0 2 0 = 1 | joint 0 3 1 1 ! Index | joint 0 2 1 1 = 3 | ofJoint 0 3 0 = 2 | ofJoint 0 1 0 = 0 | joint 1 1 1 1 ! Index | joint 0 -1 1 1 ! Index");
-    says(2, "the ROD's SQUARE (1, 2, 4 or 5) is the square of its length", "joint 0 0 1 1 | poses 0 0 = 164 | new | joint 0 0 2 1 | poses 0 0 = 140"
+    says(2, "the ROD's SQUARE (1, 2, 4 or 5) is the square of its length", "weight 0 0 0 | joint 0 0 5 1 | cross 0 7 | string 0 2 1 3 | pose 0 = 5,3 7,4 | new | joint 0 0 1 1 | poses 0 0 = 164 | new | joint 0 0 2 1 | poses 0 0 = 140"
         + " | new | joint 0 0 4 1 | poses 0 0 = 136 | new | joint 0 0 5 1 | poses 0 0 = 232");
     says(2, "Throws `IllegalArgumentException` if square is not 1, 2, 4 or 5, or weight not 0 to 9",
         "joint 0 0 0 1 ! Argument | joint 0 0 3 1 ! Argument | joint 0 0 6 1 ! Argument | joint 0 0 -1 1 ! Argument | joint 0 0 1 -1 ! Argument | joint 0 0 1 10 ! Argument"
@@ -274,6 +274,7 @@ public final class SentenceTests {
 
   private static void pulled() {
     says(8, "by how much shorter its LET is then (below 0: longer)", "string 0 2 0 7 | pull 0 0 2 = 5 | ofString 0 0 2 = 5 | pull 0 0 0 = 5 | pull 0 0 -1 = 6 | pull 0 0 1 = 5");
+    says(8, "REFUSED is -9, where a method names it: nothing changes then", "string 0 2 0 2 | pull 0 0 1 = -9 | hand 0 1 = -9 | 20 * exchange 0 1 | exchange 0 1 = -9 | type 10 | read 0 = -9 | house 3 = 4 | pull 0 0 1 refused | hand 0 1 refused | exchange 0 1 refused | read 0 refused");
     says(8, "REFUSED if that would not be 0 to 9", "tilt 0 1 | cross 0 4 | string 0 0 0 1 | pull 0 0 1 = 0 | pose 0 = 2,5 | pull 0 0 1 refused | pull 0 0 9 refused | pull 0 0 -9 = 9"
         + " | pull 0 0 -1 refused | pull 0 0 -9 refused | ofString 0 0 2 = 9 | pull 0 0 9 = 0");
     says(8, "or if there is a POSE now, and would be none.", "string 0 2 0 3 | pull 0 0 1 = 2 | pull 0 0 1 refused | pull 0 0 2 refused | ofString 0 0 2 = 2 | pose 0 = 2,5"
@@ -309,6 +310,10 @@ public final class SentenceTests {
         + " | lets 0 0 = 7 9 8 | key 0 0 | lets 0 0 = 9 8 0");
     says(12, "a number stays at its place, whatever STRING is there later", "string 0 2 0 7 | string 0 2 0 5 | key 0 0 | at 0 0 = 2,2 | cut 0 0 | pose 0 = 2,2 | at 0 0 = 2,0 | string 0 2 0 9 | at 0 0 = 2,2 | pose 0 = 2,2");
     says(12, "Throws `IllegalArgumentException` if moment is not 0 to 15", "key 0 -1 ! Argument | key 0 16 ! Argument | key 2 16 ! Index | key -1 0 ! Index | key 0 0 = 1 | key 0 15 = 2 | key 1 15 = 1");
+    says(12, "MOMENTS are 0 to 15.", "string 0 2 0 7 | key 0 0 | key 0 15 = 2 | key 0 16 ! Argument | key 0 -1 ! Argument | tear 0 0 15 | at 0 15 = 0,0 | at 0 16 ! Argument | at 0 -1 ! Argument | lets 0 0 = 7 0 0 | lets 0 15 = 7 0 0"
+        + " | lets 0 16 ! Argument | shadow 0 15 = 1 | shadow 0 0 = 4 | shadow 0 -1 ! Argument | unkey 0 15 = 1 | unkey 0 0 = 0 | unkey 0 -1 ! Argument");
+    says(12, "LETS of its three STRINGS 0 to 2 (0 of those that are not there", "3 * string 0 2 0 9 | let 0 1 8 | let 0 2 7 | key 0 3 | paper 0 = 3:9,8,7; | cut 0 2 | key 0 3 | paper 0 = 3:9,8,0; | cut 0 0 | key 0 3 | paper 0 = 3:8,0,0; | cut 0 0 | key 0 3 | paper 0 = 3:0,0,0; | ofPuppet 0 4 = 1");
+    says(12, "A KEY of the LETS that the STRINGS have now", "string 0 2 0 7 | tear 0 0 0 | key 0 5 = 1 | lets 0 5 = 7 0 0 | pull 0 0 1 | key 1 5 = 1 | paper 0 = 5:7,0,0; | paper 1 = 5:0,0,0;");
     says(12, "Returns how many KEYS the TABLE has.", "key 0 0 = 1 | key 0 15 = 2 | key 0 7 = 3 | key 0 0 = 3 | key 1 0 = 1 | key 0 1 = 4 | key 0 2 = 5 | key 0 3 = 6 | key 0 4 = 7 | key 0 5 = 8 | key 0 6 = 9 | key 0 8 = 10"
         + " | key 0 9 = 11 | key 0 10 = 12 | key 0 11 = 13 | key 0 12 = 14 | key 0 13 = 15 | key 0 14 = 16 | key 0 14 = 16");
     says(13, "Returns how many are left.", "key 0 0 | key 0 15 | key 1 0 | unkey 0 0 = 1 | unkey 0 15 = 0 | paper 0 = | ofPuppet 1 4 = 1");
@@ -327,6 +332,8 @@ public final class SentenceTests {
         + " | exchange 1 0 = 4 | row = 1+ 1+ 2- 1- | exchange 1 1 = 3 | exchange 2 1 = 2 | exchange 1 0 = 1 | exchange 1 0 = 0");
     says(15, "It is at most 20 long.", "19 * exchange 0 1 | exchange 0 1 = 20 | exchange 0 1 refused | exchange 1 1 refused | exchange 2 0 refused | exchange 0 0 = 19 | exchange 1 0 = 20 | exchange 1 1 = 19");
     says(15, "REFUSED if it would be longer than 20.", "cross 0 3 | 20 * exchange 2 0 | exchange 2 0 refused | exchange 1 0 refused | house 2 = 8 | undo = 7 | house 1 = 19 | exchange 2 0 = 20 | exchange 2 1 = 19");
+    says(15, "An EXCHANGE at k (0 to 2)", "exchange -1 0 ! Argument | exchange 3 1 ! Argument | exchange 0 0 = 1 | exchange 2 0 = 2 | strand 0 = 1 | strand 3 = 2");
+    says(15, "each new one comes behind", "exchange 2 0 | exchange 1 1 | exchange 0 0 | exchange 1 1 | row = 2- 1+ 0- 1+");
     says(16, "Returns how many are left.", "20 * exchange 2 1 | untwist = 19 | 17 * untwist | untwist = 1 | untwist = 0 | row =");
     says(16, "Throws `IllegalStateException` if there is none", "untwist ! State | exchange 0 1 | untwist = 0 | untwist ! State");
     says(16, "The last EXCHANGE of the ROW is taken back.", "exchange 0 1 | exchange 1 0 | untwist = 1 | row = 0+ | strand 0 = 1 | strand 1 = 0 | strand 2 = 2 | exchange 0 0 = 0");
@@ -339,8 +346,8 @@ public final class SentenceTests {
   private static void thingsAndPapers() {
     says(18, "A THING comes to a PLACE, or, if one is there, goes.", "thing 3 3 = 1 | thing 3 4 = 2 | thing 3 3 = 1 | thing 3 3 = 2 | thing 3 3 = 1 | thing 3 4 = 0 | house 0 = 0");
     says(18, "Throws `IllegalArgumentException` if x is not 0 to 7, or y not 0 to 5", "thing -1 0 ! Argument | thing 8 0 ! Argument | thing 0 -1 ! Argument | thing 0 6 ! Argument | thing 0 0 = 1 | thing 7 5 = 2 | thing 0 5 = 3 | thing 7 0 = 4");
+    says(18, "Returns how many THINGS there are.", "thing 7 0 = 1 | thing 7 0 = 0 | thing 7 0 = 1");
     start();
-    promise = 18;
     for (int place = 0; place < 48; place++) {
       due("the thing " + place, x.thing(place / 6, place % 6), place + 1);
     }
@@ -370,8 +377,11 @@ public final class SentenceTests {
     says(22, "Undoes a STEP (that is none).", "cross 0 3 | cross 0 4 | undo = 1 | house 2 = 1 | undo = 0 | ofPuppet 0 2 = 2 | undo ! State");
     String[] steps = {"joint 0 0 1 1", "unjoint 0", "weight 0 0 5", "string 0 1 0 5", "cut 0 0", "let 0 0 9", "pull 0 0 1", "cross 0 7", "tilt 0 1", "mirror 0", "key 0 9", "unkey 0 2", "tear 0 0 3", "exchange 1 1",
       "exchange 0 0", "untwist", "hand 0 2", "thing 4 4", "thing 1 1", "read 0", "weight 0 0 1", "let 0 0 6", "pull 0 0 0", "cross 0 2", "tilt 0 0", "tear 0 0 -1", "hand 0 0", "key 0 2"};
-    String before = "thing 1 1 | joint 0 0 1 1 | string 0 2 0 6 | string 0 3 1 7 | key 0 2 | exchange 0 1 | write 4:1,2,3;";
-    for (String step : steps) {
+    String built = "thing 1 1 | joint 0 0 1 1 | string 0 2 0 6 | string 0 3 1 7 | key 0 2 | exchange 0 1 | write 4:1,2,3;";
+    for (int i = 0; i < 2 * steps.length; i++) {
+      // All of it once more with the puppet 1.
+      String step = i < steps.length ? steps[i] : withSecondPuppet(steps[i - steps.length]);
+      String before = i < steps.length ? built : withSecondPuppet(built);
       says(22, "Each call of the first two groups below that throws nothing and is not REFUSED is a STEP", before + " | house 2 = 6 | " + step + " | house 2 = 7");
       run(before + " | " + step + " | undo = 6");
       String after = view();
@@ -384,11 +394,16 @@ public final class SentenceTests {
     String[] others = {"type 1", "wipe", "knock", "pose 0", "at 0 1", "lets 0 1", "place 0 0 1", "height 0", "poses 0 1", "slack 0", "carries 0 0", "balance 0", "falls 0 0", "reach 0 0 0", "pulls 0 0 0 1 1", "way 0 0 5 5",
       "isFree 0 0", "feet 0 0 1", "period 0", "shadow 0 0", "table 0 0 1", "clash", "row", "strand 0", "paper 0", "fault", "slip", "ofJoint 0 0 0", "ofString 0 0 0", "ofPuppet 0 0", "house 0", "isSound", "digest"};
     for (String other : others) {
-      says(22, "Each call of the first two groups below", before + " | cross 0 4 | house 2 = 7 | " + other + " | house 2 = 7 | undo = 6 | ofPuppet 0 2 = 2");
+      says(22, "Each call of the first two groups below", built + " | cross 0 4 | house 2 = 7 | " + other + " | house 2 = 7 | undo = 6 | ofPuppet 0 2 = 2");
     }
+    says(22, "is as it was", "exchange 0 1 | exchange 1 0 | untwist | exchange 2 1 | row = 0+ 2+ | undo | row = 0+ | undo | row = 0+ 1- | strand 2 = 0 | string 1 2 0 7 | key 1 4 | let 1 0 2 | key 1 4 | undo | paper 1 = 4:7,0,0; | undo | undo | pose 1 = 5,0");
     says(22, "all but the SLIP and what is counted in house() 3 and 4 is as it was", "cross 0 3 | write 12 | hand 0 1 refused | knock | undo = 0 | ofPuppet 0 2 = 2 | slip = 12 | house 5 = 2 | house 3 = 1 | house 4 = 1"
         + " | new | type 1 | cross 0 3 | wipe | undo | slip = | hand 0 1 refused | knock = 1 | cross 0 3 | undo | house 3 = 1");
     says(22, "A method that throws an exception changes nothing.", "cross 0 4 | 7 * cross 0 3 | cross 0 6 | cross 0 8 ! Argument | cross 2 0 ! Index | unjoint 0 ! State | unkey 0 0 ! State | undo = 7 | ofPuppet 0 2 = 3");
+  }
+
+  private static String withSecondPuppet(String run) {
+    return run.replaceAll("\\b(joint|unjoint|weight|string|cut|let|pull|cross|tilt|mirror|key|unkey|tear|hand|read) 0", "$1 1").replace("hand 1 0", "hand 1 1");
   }
 
   private static void toldPoses() {
@@ -405,6 +420,8 @@ public final class SentenceTests {
     says(24, "There may be none.", "cross 0 0 | string 0 0 0 9 | string 0 4 0 9 | pose 0 = 0,0 | let 0 0 2 | pose 0 = -");
     says(27, "whether x, otherwise y", "cross 0 7 | string 0 2 0 4 | joint 0 0 5 3 | pose 0 = 7,3 6,1 | place 0 0 1 = 7 | place 0 0 0 = 3 | place 0 1 1 = 6 | place 0 1 0 = 1");
     says(27, "Returns that in the told POSE; NONE without one.", "string 0 2 0 1 | place 0 0 1 = -1 | place 0 0 0 = -1 | let 0 0 2 | place 0 0 1 = 2");
+    says(27, "NONE is -1.", "string 0 2 0 1 | ofString 0 0 3 = -1 | ofJoint 0 0 0 = -1 | fault = -1 | place 0 0 1 = -1 | height 0 = -1 | carries 0 0 = -1 | falls 0 0 = -1 | pulls 0 0 0 7 5 = -1 | way 0 0 0 0 = -1 | table 0 0 0 = -1 | clash = -1"
+        + " | let 0 0 2 | feet 1 0 0 = -1 | tear 0 0 15 | period 0 = -1");
     says(27, "Throws `IndexOutOfBoundsException` if there is no such PUPPET or JOINT", "place 0 1 1 ! Index | place 0 -1 1 ! Index | place 2 0 0 ! Index | place -1 0 1 ! Index | joint 0 0 1 1 | place 0 1 1 = 1 | place 1 1 1 ! Index");
     says(28, "Returns HEIGHT of the told POSE; NONE without one.", "height 0 = 0 | string 0 2 0 2 | height 0 = 5 | let 0 0 1 | height 0 = -1 | weight 0 0 0 | height 0 = -1 | let 0 0 2 | height 0 = 0 | height 2 ! Index | height -1 ! Index");
   }
@@ -432,16 +449,21 @@ public final class SentenceTests {
   }
 
   private static void slackAndCarried() {
+    says(30, "A set is the sum of 2^k for each number k in it.", "slack 0 = 0 | string 0 2 0 9 | slack 0 = 1 | ofJoint 0 0 3 = 1 | string 0 2 0 9 | slack 0 = 3 | ofJoint 0 0 3 = 3 | string 0 2 0 9 | slack 0 = 7 | ofJoint 0 0 3 = 7 | falls 0 2 = 0 | let 0 0 2 | slack 0 = 6 | falls 0 0 = 1"
+        + " | shadow 0 0 = 4 | cross 0 7 | shadow 0 0 = 128");
     says(30, "(without a POSE none is)", "string 0 2 0 1 | string 0 2 0 9 | slack 0 = 0 | let 0 0 2 | slack 0 = 2 | slack 1 = 0 | slack 2 ! Index | slack -1 ! Index");
     says(30, "it is, if with it and those that are SLACK ahead of it cut, and nothing else, the told POSE is the same", "string 0 2 0 5 | slack 0 = 0 | string 0 2 0 5 | slack 0 = 1 | string 0 2 0 5 | slack 0 = 3 | let 0 0 4 | slack 0 = 6"
         + " | let 0 0 9 | slack 0 = 3 | let 0 2 9 | slack 0 = 5 | let 0 1 9 | slack 0 = 7 | cut 0 0 | slack 0 = 3");
     says(30, "Returns the set of SLACK STRINGS.", "slack 0 = 0 | string 0 2 0 7 | carries 0 0 = 0 | slack 0 = 0 | let 0 0 9 | slack 0 = 1 | string 0 2 0 4 | slack 0 = 1 | string 0 2 0 8 | slack 0 = 5");
     says(31, "Returns what it CARRIES; NONE without a POSE.", "string 0 2 0 1 | carries 0 0 = -1 | let 0 0 2 | carries 0 0 = 5 | weight 0 0 9 | carries 0 0 = 45 | weight 0 0 0 | carries 0 0 = 0 | weight 0 0 1 | let 0 0 7 | carries 0 0 = 0");
     says(31, "HEIGHT of the told POSE, less that of the told POSE with just this one cut.", "string 0 2 0 4 | string 0 2 0 4 | carries 0 0 = 0 | carries 0 1 = 0 | let 0 1 5 | carries 0 0 = 1 | carries 0 1 = 0 | tear 0 0 0 | carries 0 0 = 1");
+    says(31, "NONE without a POSE.", "string 0 2 0 1 | string 0 2 0 1 | carries 0 0 = -1 | let 0 1 2 | carries 0 0 = -1 | carries 0 1 = -1 | let 0 0 9 | carries 0 0 = 0 | carries 0 1 = 5 | string 0 2 0 2 | cut 0 1 | carries 0 1 = 5 | carries 0 0 = 0 | cut 0 1 | pose 0 = 0,0 | carries 0 0 = 0");
+    says(31, "with just this one cut", "string 0 1 0 9 | string 0 2 0 9 | string 0 3 0 3 | carries 0 0 = 0 | carries 0 1 = 0 | carries 0 2 = 4 | let 0 1 3 | pose 0 = 1,5 | carries 0 0 = 0 | carries 0 1 = 1 | carries 0 2 = 1");
     says(31, "Throws `IndexOutOfBoundsException` if there is no such PUPPET or STRING", "carries 0 0 ! Index | string 0 2 0 4 | carries 0 1 ! Index | carries 0 -1 ! Index | carries 1 0 ! Index | carries 2 0 ! Index");
     says(33, "NONE without a POSE. Throws `IndexOutOfBoundsException` if there is no such PUPPET or STRING", "falls 0 0 ! Index | string 0 2 0 1 | falls 0 0 = -1 | let 0 0 2 | falls 0 0 = 1 | falls 0 1 ! Index | falls 0 -1 ! Index | falls 1 0 ! Index | falls 2 0 ! Index");
     says(33, "Returns the set of JOINTS that are elsewhere in the told POSE, if just that STRING were cut", "string 0 2 0 9 | falls 0 0 = 0 | let 0 0 7 | falls 0 0 = 1 | 3 * joint 0 0 1 1 | falls 0 0 = 1 | cross 0 4 | falls 0 0 = 15"
-        + " | new | joint 0 0 1 1 | string 0 0 1 8 | falls 0 0 = 0 | let 0 0 7 | pose 0 = 1,0 0,0 | falls 0 0 = 3 | let 0 0 6 | pose 0 = 0,0 0,1 | falls 0 0 = 2 | cut 0 0 | string 0 2 1 6 | pose 0 = 2,0 2,1 | falls 0 0 = 3 | string 0 2 1 6 | falls 0 0 = 0 | falls 0 1 = 0");
+        + " | new | joint 0 0 1 1 | string 0 0 1 8 | falls 0 0 = 0 | let 0 0 7 | pose 0 = 1,0 0,0 | falls 0 0 = 3 | let 0 0 6 | pose 0 = 0,0 0,1 | falls 0 0 = 2 | cut 0 0 | string 0 2 1 6 | pose 0 = 2,0 2,1 | falls 0 0 = 3 | string 0 2 1 6 | falls 0 0 = 0 | falls 0 1 = 0"
+        + " | new | string 0 2 0 9 | string 0 2 0 9 | string 0 2 0 2 | falls 0 0 = 0 | falls 0 1 = 0 | falls 0 2 = 1 | let 0 1 2 | falls 0 2 = 0 | let 0 2 3 | falls 0 1 = 1");
   }
 
   private static void balanced() {
@@ -454,6 +476,9 @@ public final class SentenceTests {
     says(32, "pulls above 0 of STRINGS", "tilt 0 1 | cross 0 4 | string 0 0 0 0 | pose 0 = 2,5 | balance 0 = - | string 0 0 0 0 | balance 0 = - | new | tilt 0 1 | cross 0 4 | string 0 0 0 1 | string 0 4 0 5 | pose 0 = 3,5 | balance 0 = 0:3/4 1:1/4"
         + " | cut 0 1 | pose 0 = 2,4 | balance 0 = 0:1");
     says(32, "Where one of several is taken and nothing else is said, it is that with the smallest number.", "string 0 2 0 7 | string 0 2 0 8 | balance 0 = 0:1/7 | slack 0 = 2 | let 0 1 7 | slack 0 = 1");
+    says(32, "pulls above 0 of STRINGS, along each from its JOINT to its PEG", "joint 0 0 1 0 | tilt 0 1 | string 0 1 1 5 | string 0 3 0 4 | string 0 0 0 2 | pose 0 = 1,5 0,5 | balance 0 = 0:1 2:1"
+        + " | new | weight 0 0 0 | joint 0 0 5 1 | joint 0 0 4 0 | tilt 0 -1 | string 0 4 0 1 | string 0 4 2 1 | pose 0 = 3,5 2,3 5,5 | balance 0 = - | new | weight 0 0 2 | tilt 0 -1 | string 0 4 0 1 | string 0 2 0 3 | pose 0 = 3,5 | balance 0 = 0:1 1:1"
+        + " | new | tilt 0 -1 | string 0 1 0 4 | string 0 3 0 2 | pose 0 = 2,5 | balance 0 = 0:1/4 1:1/4 | mirror 0 | pose 0 = 4,5 | balance 0 = 1:1");
     says(32, "of the first STRING that does so alone, its pull", "3 * string 0 2 0 7 | balance 0 = 0:1/7 | cut 0 0 | mirror 0 | mirror 0 | balance 0 = 0:1/7 | new | string 0 1 0 9 | string 0 2 0 7 | string 0 3 0 9 | pose 0 = 2,0 | balance 0 = 1:1/7"
         + " | new | string 0 1 0 9 | string 0 3 0 9 | string 0 2 0 7 | balance 0 = 2:1/7");
     says(32, "of the first two STRINGS (by the smaller number, then by the other one)", "string 0 0 0 9 | string 0 1 0 4 | string 0 4 0 4 | pose 0 = 2,4 | balance 0 = 0:1/6 2:1/6 | new | string 0 0 0 9 | string 0 4 0 4 | string 0 1 0 4"
@@ -485,6 +510,7 @@ public final class SentenceTests {
 
   private static void free() {
     says(37, "Throws `IllegalArgumentException` if moment is not 0 to 14", "isFree 0 15 ! Argument | isFree 0 -1 ! Argument | isFree 2 15 ! Index | isFree -1 0 ! Index | isFree 0 0 = true | isFree 0 14 = true");
+    says(37, "a MOMENT, but 15 Returns whether it is FREE between that and the next one.", "isFree 0 14 = true | isFree 0 15 ! Argument | string 0 2 0 2 | key 0 14 | let 0 0 1 | key 0 15 | isFree 0 14 = false | isFree 0 13 = true | isFree 0 0 = true");
     says(37, "there are POSES at both", "string 0 2 0 2 | key 0 0 | key 0 2 | let 0 0 1 | key 0 1 | isFree 0 0 = false | isFree 0 1 = false | isFree 0 2 = true | key 0 15 | let 0 0 2 | key 0 14 | isFree 0 14 = false | isFree 0 13 = true");
     String rods = "in neither of them two RODS without a JOINT in common meet (two stretches that have a point in common)";
     apart(false, rods, "weight 0 0 2 | joint 0 0 5 1 | joint 0 0 2 0 | joint 0 2 1 0 | string 0 1 1 5 | tear 0 0 1", "0,0 1,2 1,1 0,1", "0,0 2,1 1,1 0,1");
@@ -499,6 +525,7 @@ public final class SentenceTests {
     apart(false, stays, "joint 0 0 4 0 | joint 0 0 1 0 | string 0 1 1 4 | tear 0 0 1", "1,1 1,3 0,1", "0,0 0,2 0,1");
     apart(false, stays, "weight 0 0 2 | joint 0 0 4 0 | joint 0 1 1 0 | string 0 1 0 8 | tear 0 0 1", "0,0 0,2 0,1", "0,0 0,2 0,1");
     apart(true, stays, "weight 0 0 0 | joint 0 0 1 0 | joint 0 1 4 0 | string 0 2 2 6 | tear 0 0 1", "0,0 0,1 0,3", "0,0 0,1 0,3");
+    apart(true, stays, "weight 0 0 0 | joint 0 0 5 2 | joint 0 1 1 1 | tilt 0 -1 | string 0 4 0 7 | tear 0 0 1", "0,1 2,0 1,0", "0,1 2,0 1,0");
     String moves = "meets no ROD without that JOINT, in neither of both POSES";
     apart(false, moves, "joint 0 0 1 0 | joint 0 0 2 0 | string 0 1 1 2 | tear 0 0 1", "1,4 1,5 0,3", "0,0 0,1 1,1");
     apart(false, moves, "joint 0 0 2 0 | joint 0 0 1 0 | string 0 3 0 7 | tear 0 0 1", "3,0 2,1 2,0", "0,0 1,1 0,1");
@@ -551,6 +578,7 @@ public final class SentenceTests {
     says(41, "each step making LET of one STRING (that is there) 1 more or less, towards what it has to be", "tilt 0 1 | cross 0 4 | 3 * string 0 0 0 0 | key 0 0 | let 0 0 9 | let 0 1 9 | let 0 2 9 | key 0 15 | table 0 0 15 = 27 | table 0 15 0 = 27 | table 0 15 15 = 0"
         + " | new | string 0 1 0 2 | string 0 3 0 9 | key 0 0 | let 0 0 9 | let 0 1 2 | key 0 15 | table 0 0 15 = 14 | table 0 15 0 = 14");
     says(41, "(of all STRINGS that are there, TORN or not)", "string 0 2 0 2 | key 0 0 | let 0 0 1 | key 0 15 | tear 0 0 0 | at 0 15 = 0,0 | table 0 0 15 = -1 | table 0 0 0 = 0 | table 0 15 15 = -1");
+    says(41, "NONE if one can not.", "string 0 1 0 9 | string 0 3 0 2 | table 0 0 15 = 0 | key 0 0 | let 0 0 1 | key 0 15 | table 0 0 15 = -1 | table 0 15 0 = -1 | table 0 0 3 = 2 | let 0 0 3 | key 0 15 | pose 0 = 3,5 | table 0 0 15 = 6");
     says(41, "Throws `IllegalArgumentException` if from or to is not 0 to 15", "table 0 16 0 ! Argument | table 0 -1 0 ! Argument | table 0 0 16 ! Argument | table 0 0 -1 ! Argument | table 2 16 0 ! Index | table -1 0 -1 ! Index | table 0 15 0 = 0 | table 0 0 15 = 0");
     says(42, "Returns the first MOMENT at which a JOINT of the PUPPET 0 and one of 1 have the same PLACE; NONE without one.", "clash = 0 | string 0 2 0 7 | clash = -1 | tear 0 0 15 | clash = 15 | tear 0 0 1 | clash = 1 | tear 0 0 0 | clash = 0"
         + " | new | string 0 2 0 2 | string 1 2 0 2 | cross 1 2 | clash = 0 | tear 0 0 1 | clash = 0 | cross 1 3 | clash = -1 | tear 1 0 9 | clash = 9 | let 1 0 1 | clash = 9 | tear 1 0 -1 | clash = -1 | let 0 0 1 | let 1 0 1 | tear 0 0 -1 | clash = -1"
@@ -671,6 +699,7 @@ public final class SentenceTests {
 
   private static void soundness() {
     says(52, "Returns whether all of this is so, of both PUPPETS", "isSound = true | string 0 2 0 1 | isSound = true | string 1 2 0 1 | isSound = true | cut 0 0 | isSound = true");
+    says(52, "if there is a told POSE:", "string 0 2 0 1 | string 0 2 0 9 | pose 0 = - | isSound = true | key 0 0 | string 1 2 0 0 | isSound = true | weight 0 0 0 | isSound = true");
     says(52, "with all SLACK STRINGS cut it is the same, and with one more cut it is not", "3 * string 0 2 0 5 | isSound = true | let 0 0 9 | isSound = true | let 0 1 9 | let 0 2 9 | isSound = true | joint 0 0 5 3 | string 1 2 0 7 | isSound = true");
     says(52, "told BALANCE holds the sum of all WEIGHTS, and nothing sideways", "string 0 1 0 4 | string 0 4 0 4 | balance 0 = 0:2/9 1:1/9 | isSound = true | weight 0 0 9 | isSound = true | weight 0 0 0 | balance 0 = | isSound = true | weight 0 0 1 | let 0 1 9 | balance 0 = 0:1/4"
         + " | isSound = true | string 0 0 0 9 | cut 0 0 | cut 0 0 | pose 0 = 0,0 | balance 0 = 0:1/7 | isSound = true | cross 0 5 | balance 0 = - | isSound = true");
@@ -683,6 +712,8 @@ public final class SentenceTests {
     String order = "for each v in this order";
     String runs = "wipe / joint 0 0 5 2 | joint 0 1 2 0 | joint 0 0 1 3 | string 0 1 0 6 | string 0 3 2 5 | string 0 4 3 8 | key 0 4 | let 0 1 9 | key 0 12 | tear 0 2 7 | type 4 | thing 3 3"
         + " / string 0 2 0 1 | joint 1 0 4 9 | string 1 0 1 5 | string 1 4 0 4 | tear 1 1 8 | key 1 0 | key 1 15 | exchange 2 1 | exchange 0 0 | hand 0 1 refused | knock | write 1:9"
+        + " / string 0 2 0 9 | cross 0 7 | string 0 2 0 2 | tear 0 1 7 | tear 0 0 15 | string 1 2 0 2 | tear 1 0 15 | key 1 0 | let 1 0 9 | key 1 1 | let 1 0 2 | key 1 6 | let 1 0 9 | key 1 7 | let 1 0 2 | key 1 8 | key 1 14 | let 1 0 9 | key 1 15"
+        + " / string 1 2 0 2 | tear 1 0 1 | string 0 2 0 2 | tear 0 0 8"
         + " / weight 0 0 0 | string 0 2 0 7 | string 1 2 0 2 | cross 1 2 | tear 0 0 15 | tilt 1 -1 | 20 * exchange 1 0 | 40 * type 12 | 5 * knock";
     for (String one : runs.split(" / ")) {
       says(53, order, one);
@@ -690,6 +721,8 @@ public final class SentenceTests {
       due("digest", told, sum(6707).longValue());
       due("digest again", outcome("digest"), told);
     }
+    says(53, "A number d starts with 6707", "wipe");
+    due("digest", x.digest(), sum(6707).longValue());
     says(53, "which wraps around as a 64-bit integer", "digest");
     BigInteger all = sum(6707);
     due("the sum that does not wrap around is beyond 64 bits", all.bitLength() > 64, true);
