@@ -54,6 +54,7 @@ public final class SentenceTests {
     reachedPlaces();
     ways();
     free();
+    crossings();
     feetPeriodsShadows();
     tablesAndClashes();
     rowsAndPapers();
@@ -397,6 +398,11 @@ public final class SentenceTests {
       says(22, "Each call of the first two groups below", built + " | cross 0 4 | house 2 = 7 | " + other + " | house 2 = 7 | undo = 6 | ofPuppet 0 2 = 2");
     }
     says(22, "is as it was", "exchange 0 1 | exchange 1 0 | untwist | exchange 2 1 | row = 0+ 2+ | undo | row = 0+ | undo | row = 0+ 1- | strand 2 = 0 | string 1 2 0 7 | key 1 4 | let 1 0 2 | key 1 4 | undo | paper 1 = 4:7,0,0; | undo | undo | pose 1 = 5,0");
+    says(22, "all but the SLIP and what is counted in house() 3 and 4 is as it was",
+        "joint 1 0 5 9 | joint 0 0 2 3 | string 0 4 1 8 | string 1 0 1 9 | string 1 1 0 7 | tear 0 0 5 | tear 1 1 15 | tilt 0 1 | tilt 1 -1 | cross 0 7 | cross 1 0 | weight 0 0 0 | hand 1 2 | hand 0 1 | key 0 15 | key 1 0 | thing 7 5 | exchange 2 1 | exchange 1 0"
+        + " | cross 1 3 | 7 * let 0 0 8 | 8 * undo | house 2 = 0 | ofPuppet 0 0 = 2 | ofPuppet 0 1 = 1 | ofPuppet 0 2 = 7 | ofPuppet 0 3 = 1 | ofPuppet 0 4 = 1 | ofPuppet 0 5 = 1 | ofPuppet 0 6 = 3 | ofPuppet 1 0 = 2 | ofPuppet 1 1 = 2 | ofPuppet 1 2 = 0 | ofPuppet 1 3 = -1"
+        + " | ofPuppet 1 4 = 1 | ofPuppet 1 5 = 2 | ofPuppet 1 6 = 10 | ofJoint 0 1 1 = 2 | ofJoint 1 1 1 = 5 | ofJoint 1 1 2 = 9 | ofString 0 0 0 = 4 | ofString 0 0 1 = 1 | ofString 0 0 2 = 8 | ofString 0 0 3 = 5 | ofString 1 1 0 = 1 | ofString 1 1 3 = 15 | ofString 1 0 3 = -1"
+        + " | paper 0 = 15:8,0,0; | paper 1 = 0:9,7,0; | house 0 = 1 | row = 2+ 1- | way 1 1 7 5 = -1");
     says(22, "all but the SLIP and what is counted in house() 3 and 4 is as it was", "cross 0 3 | write 12 | hand 0 1 refused | knock | undo = 0 | ofPuppet 0 2 = 2 | slip = 12 | house 5 = 2 | house 3 = 1 | house 4 = 1"
         + " | new | type 1 | cross 0 3 | wipe | undo | slip = | hand 0 1 refused | knock = 1 | cross 0 3 | undo | house 3 = 1");
     says(22, "A method that throws an exception changes nothing.", "cross 0 4 | 7 * cross 0 3 | cross 0 6 | cross 0 8 ! Argument | cross 2 0 ! Index | unjoint 0 ! State | unkey 0 0 ! State | undo = 7 | ofPuppet 0 2 = 3");
@@ -495,6 +501,11 @@ public final class SentenceTests {
     says(35, "Returns by how much LET of that STRING has to become another one at least, so that the JOINT is there in the told POSE", "tilt 0 -1 | cross 0 5 | string 0 4 0 9 | pose 0 = 0,0 | pulls 0 0 0 0 0 = 0 | pulls 0 0 0 7 5 = 9"
         + " | pulls 0 0 0 1 0 = 1 | let 0 0 0 | pulls 0 0 0 0 0 = 9 | pulls 0 0 0 7 5 = 0 | let 0 0 5 | pulls 0 0 0 7 1 = 1 | pulls 0 0 0 4 0 = 1 | ofString 0 0 2 = 5"
         + " | new | string 0 2 0 9 | pulls 0 0 0 0 0 = 0 | let 0 0 7 | pulls 0 0 0 0 0 = 1 | let 0 0 5 | pulls 0 0 0 0 0 = 3 | pulls 0 0 0 2 2 = 0");
+    says(34, "how many unlike PLACES the JOINT has in the told POSES with LET 0 to 9 of that STRING",
+        "joint 0 0 5 1 | joint 0 1 1 0 | cross 0 7 | string 0 4 2 4 | reach 0 0 0 = 7 | reach 0 1 0 = 7 | reach 0 2 0 = 7 | new | joint 0 0 4 2 | joint 0 1 5 0 | string 0 2 0 3 | string 0 4 2 9 | reach 0 0 1 = 3 | reach 0 1 1 = 3 | reach 0 2 1 = 6");
+    says(35, "with LET 0 to 9 of that STRING", "cross 0 7 | string 0 4 0 9 | pose 0 = 4,0 | reach 0 0 0 = 7 | pulls 0 0 0 4 0 = 0 | pulls 0 0 0 6 0 = 1 | pulls 0 0 0 7 5 = 6 | pulls 0 0 0 2 0 = -1 | pulls 0 0 0 0 0 = -1");
+    says(35, "so that the JOINT is there in the told POSE",
+        "joint 0 0 5 1 | joint 0 1 1 0 | cross 0 7 | string 0 4 2 6 | pose 0 = 4,0 6,1 6,2 | pulls 0 1 0 7 4 = 3 | pulls 0 1 0 2 1 = 3 | pulls 0 1 0 1 2 = -1 | pulls 0 1 0 6 2 = 1 | pulls 0 1 0 6 1 = 0 | pulls 0 2 0 6 2 = 0 | pulls 0 2 0 6 3 = 1 | pulls 0 2 0 3 2 = 2 | pulls 0 2 0 2 2 = 3 | pulls 0 2 0 7 5 = 3 | pulls 0 2 0 6 1 = -1 | pulls 0 0 0 4 0 = 0");
     says(35, "NONE if it never is.", "string 0 2 0 5 | pulls 0 0 0 7 5 = -1 | pulls 0 0 0 1 0 = -1 | string 0 2 0 1 | pulls 0 0 0 2 2 = -1 | pulls 0 0 1 2 5 = 1");
     says(35, "Throws `IllegalArgumentException` if x is not 0 to 7, or y not 0 to 5", "string 0 2 0 5 | pulls 0 0 0 8 0 ! Argument | pulls 0 0 0 -1 0 ! Argument | pulls 0 0 0 0 6 ! Argument | pulls 0 0 0 0 -1 ! Argument | pulls 0 1 0 8 0 ! Index"
         + " | pulls 0 0 1 0 6 ! Index | pulls 2 0 0 8 6 ! Index | pulls 0 0 0 7 5 = -1 | pulls 0 0 0 0 0 = 3");
@@ -546,6 +557,44 @@ public final class SentenceTests {
     apart(false, ends, "weight 0 0 2 | joint 0 0 4 0 | joint 0 0 5 0 | string 0 3 1 5 | tear 0 0 1", "3,0 3,2 1,1", "0,0 0,2 1,2");
   }
 
+  /** Stretches that cross, each the only ones of their run: both ways round, near to an end and far from it. */
+  private static void crossings() {
+    String[] ofRods = {
+      "joint 0 0 4 1 | joint 0 0 5 2 | joint 0 1 2 0 | string 0 1 2 5 | tear 0 0 1 / 0,0 2,0 1,2 1,1 / 0,0 2,0 2,1 1,1",
+      "weight 0 0 2 | joint 0 0 5 2 | joint 0 1 4 1 | joint 0 2 2 0 | string 0 3 0 5 | tear 0 0 1 / 3,2 2,0 0,0 1,1 / 0,1 2,0 0,0 1,1",
+      "weight 0 0 2 | joint 0 0 2 1 | joint 0 1 5 2 | joint 0 0 5 2 | string 0 3 1 2 | tear 0 0 1 / 2,4 3,5 2,3 1,2 / 0,0 1,1 3,0 2,1",
+      "weight 0 0 2 | joint 0 0 2 0 | joint 0 0 1 2 | joint 0 2 5 1 | string 0 0 3 5 | tear 0 0 1 / 0,0 1,1 1,0 0,2 / 0,0 1,1 1,0 3,1",
+      "joint 0 0 5 0 | joint 0 1 4 2 | joint 0 2 5 0 | string 0 4 3 3 | tear 0 0 1 / 0,0 1,2 3,2 4,4 / 0,0 1,2 1,0 0,2",
+      "weight 0 0 2 | joint 0 0 5 0 | joint 0 0 2 0 | joint 0 2 5 0 | string 0 4 3 5 | tear 0 0 1 / 0,0 1,2 1,1 2,3 / 0,0 1,2 1,1 0,3",
+      "weight 0 0 2 | joint 0 0 4 2 | joint 0 1 5 2 | joint 0 0 2 1 | string 0 1 2 5 | tear 0 0 1 / 0,0 2,0 1,2 1,1 / 0,0 2,0 0,1 1,1",
+      "weight 0 0 2 | joint 0 0 1 2 | joint 0 1 5 1 | joint 0 0 5 1 | string 0 2 2 5 | tear 0 0 1 / 0,0 1,0 2,2 2,1 / 0,0 1,0 3,1 2,1",
+      "joint 0 0 2 1 | joint 0 1 5 0 | joint 0 0 5 0 | string 0 4 2 5 | tear 0 0 1 / 0,0 1,1 2,3 1,2 / 0,0 1,1 0,3 1,2",
+      "joint 0 0 2 1 | joint 0 0 1 2 | joint 0 2 5 2 | string 0 1 3 4 | tear 0 0 1 / 0,0 1,1 0,1 1,3 / 0,0 1,1 0,1 2,0",
+      "joint 0 0 4 1 | joint 0 1 5 0 | joint 0 0 5 2 | string 0 3 2 5 | tear 0 0 1 / 0,0 2,0 3,2 2,1 / 0,0 2,0 0,1 2,1",
+      "joint 0 0 2 2 | joint 0 0 5 1 | joint 0 1 5 2 | string 0 2 1 2 | tear 0 0 1 / 1,4 2,5 0,2 1,3 / 0,0 1,1 2,1 3,0"};
+    for (String one : ofRods) {
+      String[] parts = one.split(" / ");
+      apart(false, "in neither of them two RODS without a JOINT in common meet", parts[0], parts[1], parts[2]);
+    }
+    String[] ofMoves = {
+      "joint 0 0 2 0 | joint 0 0 1 1 | string 0 0 0 5 | tear 0 0 1 / 0,2 1,1 0,1 / 0,0 1,1 1,0",
+      "weight 0 0 0 | joint 0 0 5 2 | joint 0 1 4 0 | string 0 0 0 2 | tear 0 0 1 / 0,5 1,3 1,1 / 0,1 2,0 0,0",
+      "weight 0 0 0 | joint 0 0 5 0 | joint 0 0 4 2 | string 0 1 1 2 | tear 0 0 1 / 0,3 1,5 0,1 / 0,0 1,2 2,0",
+      "joint 0 0 1 2 | joint 0 1 2 2 | string 0 2 1 5 | tear 0 0 1 / 2,1 2,2 1,1 / 0,0 0,1 1,0",
+      "joint 0 0 4 0 | joint 0 1 2 2 | string 0 1 2 5 | tear 0 0 1 / 0,1 0,3 1,2 / 0,1 2,1 1,0",
+      "joint 0 0 1 0 | joint 0 0 2 2 | string 0 4 0 6 | tear 0 0 1 / 4,1 3,1 3,0 / 0,1 0,0 1,0",
+      "weight 0 0 2 | joint 0 0 2 0 | joint 0 0 1 1 | string 0 3 2 6 | tear 0 0 1 / 3,0 2,1 3,1 / 0,0 1,1 1,0",
+      "joint 0 0 1 1 | joint 0 1 5 0 | string 0 0 2 3 | tear 0 0 1 / 1,1 1,2 0,4 / 0,0 1,0 0,2",
+      "weight 0 0 0 | joint 0 0 5 0 | joint 0 0 2 2 | string 0 2 2 4 | tear 0 0 1 / 1,2 0,0 2,3 / 0,1 1,3 1,0",
+      "joint 0 0 4 2 | joint 0 0 5 1 | string 0 3 1 2 | tear 0 0 1 / 3,3 3,5 2,1 / 0,0 2,0 2,1",
+      "weight 0 0 0 | joint 0 0 1 2 | joint 0 1 4 0 | string 0 3 2 3 | tear 0 0 1 / 2,2 3,2 3,4 / 0,0 1,0 1,2",
+      "joint 0 0 4 0 | joint 0 0 5 0 | string 0 4 0 6 | tear 0 0 1 / 4,1 2,1 2,0 / 0,0 0,2 1,2"};
+    for (String one : ofMoves) {
+      String[] parts = one.split(" / ");
+      apart(false, "the stretch from a JOINT's PLACE at the one to that at the other", parts[0], parts[1], parts[2]);
+    }
+  }
+
   /** Whether it is free between the moments 0 and 1, where these poses are. */
   private static void apart(boolean isFree, String sentence, String run, String first, String second) {
     says(37, sentence, run + " | at 0 0 = " + first + " | at 0 1 = " + second + " | isFree 0 0 = " + isFree);
@@ -580,9 +629,12 @@ public final class SentenceTests {
     says(41, "(of all STRINGS that are there, TORN or not)", "string 0 2 0 2 | key 0 0 | let 0 0 1 | key 0 15 | tear 0 0 0 | at 0 15 = 0,0 | table 0 0 15 = -1 | table 0 0 0 = 0 | table 0 15 15 = -1");
     says(41, "NONE if one can not.", "string 0 1 0 9 | string 0 3 0 2 | table 0 0 15 = 0 | key 0 0 | let 0 0 1 | key 0 15 | table 0 0 15 = -1 | table 0 15 0 = -1 | table 0 0 3 = 2 | let 0 0 3 | key 0 15 | pose 0 = 3,5 | table 0 0 15 = 6");
     says(41, "Throws `IllegalArgumentException` if from or to is not 0 to 15", "table 0 16 0 ! Argument | table 0 -1 0 ! Argument | table 0 0 16 ! Argument | table 0 0 -1 ! Argument | table 2 16 0 ! Index | table -1 0 -1 ! Index | table 0 15 0 = 0 | table 0 0 15 = 0");
+    says(42, "a JOINT of the PUPPET 0 and one of 1 have the same PLACE", "string 0 2 0 7 | joint 1 0 1 1 | joint 1 0 4 1 | cross 1 3 | string 1 2 0 7 | pose 1 = 3,0 2,0 1,0 | clash = 0 | cross 0 1 | pose 0 = 1,0 | clash = 0 | cross 0 3 | clash = 0 | cross 0 4 | clash = -1 | cross 0 0 | clash = -1"
+        + " | joint 0 0 1 1 | joint 0 0 5 1 | pose 0 = 0,0 1,0 2,1 | clash = 0 | cross 1 5 | clash = -1 | joint 0 2 1 1 | unjoint 1 | cross 1 3 | pose 1 = 3,0 2,0 | pose 0 = 0,0 1,0 2,1 2,0 | clash = 0");
     says(42, "Returns the first MOMENT at which a JOINT of the PUPPET 0 and one of 1 have the same PLACE; NONE without one.", "clash = 0 | string 0 2 0 7 | clash = -1 | tear 0 0 15 | clash = 15 | tear 0 0 1 | clash = 1 | tear 0 0 0 | clash = 0"
         + " | new | string 0 2 0 2 | string 1 2 0 2 | cross 1 2 | clash = 0 | tear 0 0 1 | clash = 0 | cross 1 3 | clash = -1 | tear 1 0 9 | clash = 9 | let 1 0 1 | clash = 9 | tear 1 0 -1 | clash = -1 | let 0 0 1 | let 1 0 1 | tear 0 0 -1 | clash = -1"
-        + " | new | joint 0 0 4 1 | string 1 2 0 2 | clash = -1 | cross 1 2 | let 1 0 7 | clash = 0 | unjoint 0 | clash = -1");
+        + " | new | 3 * joint 0 0 1 0 | 3 * joint 1 0 1 0 | string 0 2 0 7 | string 1 2 0 7 | weight 0 3 1 | weight 1 3 1 | pose 0 = 2,0 1,0 1,0 1,0 | cross 0 3 | pose 0 = 3,0 2,0 2,0 2,0 | pose 1 = 5,0 4,0 4,0 4,0 | clash = -1 | cross 1 4 | clash = 0"
+        + " | new | 2 * joint 0 0 1 0 | joint 0 0 1 9 | cross 0 7 | string 0 2 3 3 | pose 0 = 7,3 6,3 6,3 7,4 | joint 1 0 4 0 | joint 1 1 4 0 | joint 1 2 4 9 | cross 1 7 | string 1 2 3 3 | clash = 0 | unjoint 1 | clash = -1 | new | joint 0 0 4 1 | string 1 2 0 2 | clash = -1 | cross 1 2 | let 1 0 7 | clash = 0 | unjoint 0 | clash = -1");
   }
 
   private static void rowsAndPapers() {
